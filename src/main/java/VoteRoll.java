@@ -990,8 +990,11 @@ public final class VoteRoll {
         }
 
         private boolean readPlain(Tape tape) {
-            int kind = factKind(tape);
-            if (kind == NONE || allFacts >= MOST_FACTS) {
+            int kind = DEAD;
+            while (kind <= WARD && !tape.isWord(factWord(kind))) {
+                kind++;
+            }
+            if (kind > WARD || allFacts >= MOST_FACTS) {
                 return false;
             }
             tape.step();
@@ -1007,15 +1010,6 @@ public final class VoteRoll {
             causeFacts++;
             emit(kind, number);
             return true;
-        }
-
-        private static int factKind(Tape tape) {
-            for (int kind = DEAD; kind <= WARD; kind++) {
-                if (tape.isWord(factWord(kind))) {
-                    return kind;
-                }
-            }
-            return NONE;
         }
 
         private static String factWord(int kind) {
@@ -1097,10 +1091,6 @@ public final class VoteRoll {
 
         static boolean tellsHome(int sort) {
             return needsPlace(sort) || sort == NO_DOOR;
-        }
-
-        static boolean isHeard(int sort) {
-            return tellsHome(sort) || sort == ABROAD;
         }
 
         static int foldedPlace(int record, int which) {
@@ -1635,14 +1625,13 @@ public final class VoteRoll {
             for (int i = 0; i < size && book.day[records[i]] <= day; i++) {
                 int record = records[i];
                 int sort = book.sort[record];
-                if (Book.isHeard(sort)) {
-                    heard = book.day[record];
-                }
                 if (Book.tellsHome(sort)) {
+                    heard = book.day[record];
                     homeRecord = record;
                     abroadRecord = NONE;
                 }
                 if (sort == Book.ABROAD) {
+                    heard = book.day[record];
                     abroadRecord = record;
                 } else if (sort == Book.DEAD) {
                     deathRecord = record;

@@ -1,0 +1,116 @@
+import java.nio.file.Files;
+import java.nio.file.Path;
+import java.util.ArrayList;
+import java.util.List;
+import java.util.TreeSet;
+import java.util.regex.Matcher;
+import java.util.regex.Pattern;
+
+/** The rules of LANGUAGE.md that a look at the text and at the compiled class can hold. */
+public final class LanguageTest {
+    private static final String[] FACE = {"feed", "end", "folds", "law", "fault", "record", "folded", "field", "terms",
+        "odds", "person", "joined", "of", "led", "hide", "act", "vote", "cause", "line", "since", "lacks", "may", "ward",
+        "tried", "doors", "missing", "luck", "chances", "costs", "wish", "clear", "caseOf", "plan", "planned", "count",
+        "status"};
+
+    public static void main(String[] args) throws Exception {
+        String source = System.getProperty("voteroll.source", "src/main/java/VoteRoll.java");
+        String text = Files.readString(Path.of(source));
+        String code = withoutComments(text);
+        face();
+        words(code.replaceAll("\"[a-z]*\"", "\"\""));
+        shape(code);
+        Desk.finish();
+    }
+
+    private static String withoutComments(String text) {
+        return text.replaceAll("(?s)/\\*.*?\\*/", "").replaceAll("//[^\n]*", "");
+    }
+
+    private static void face() {
+        TreeSet<String> due = new TreeSet<>(List.of(FACE));
+        TreeSet<String> found = new TreeSet<>();
+        int othersSeen = 0;
+        for (java.lang.reflect.Method m : VoteRoll.class.getDeclaredMethods()) {
+            int mod = m.getModifiers();
+            if (java.lang.reflect.Modifier.isPublic(mod)) {
+                found.add(m.getName());
+            } else if (!java.lang.reflect.Modifier.isPrivate(mod) && !m.isSynthetic()) {
+                othersSeen++;
+            } else if (due.contains(m.getName())) {
+                othersSeen++;
+            }
+        }
+        Desk.due("rule 1: public methods", found.toString(), due.toString());
+        for (java.lang.reflect.Field f : VoteRoll.class.getDeclaredFields()) {
+            boolean isNone = f.getName().equals("NONE");
+            boolean hidden = java.lang.reflect.Modifier.isPrivate(f.getModifiers());
+            othersSeen += isNone || hidden ? 0 : 1;
+        }
+        for (Class<?> c : VoteRoll.class.getDeclaredClasses()) {
+            boolean fine = java.lang.reflect.Modifier.isPrivate(c.getModifiers())
+                    && java.lang.reflect.Modifier.isStatic(c.getModifiers());
+            othersSeen += fine ? 0 : 1;
+            Desk.due("rule 11: fields of " + c.getSimpleName(), objectFields(c) <= 20 ? 0 : objectFields(c), 0);
+            for (java.lang.reflect.Method m : c.getDeclaredMethods()) {
+                othersSeen += due.contains(m.getName()) ? 1 : 0;
+            }
+        }
+        Desk.due("rule 1: members that should not be seen", othersSeen, 0);
+        Desk.due("rule 1: constructors", VoteRoll.class.getConstructors().length, 1);
+        Desk.due("rule 11: fields of VoteRoll", objectFields(VoteRoll.class) <= 20 ? 0 : 1, 0);
+        Desk.due("rule 11: classes", VoteRoll.class.getDeclaredClasses().length + 1 <= 12 ? 0 : 1, 0);
+    }
+
+    private static int objectFields(Class<?> c) {
+        int n = 0;
+        for (java.lang.reflect.Field f : c.getDeclaredFields()) {
+            n += java.lang.reflect.Modifier.isStatic(f.getModifiers()) ? 0 : 1;
+        }
+        return n;
+    }
+
+    private static void words(String code) {
+        String[] forbidden = {"\\bthrow\\b", "\\bthrows\\b", "\\btry\\b", "\\bcatch\\b", "\\bsynchronized\\b", "\\bassert\\b",
+            "->", "::", "\\bimport\\b", "\\bpackage\\b", "Exact\\b", "\\bprotected\\b", "\\bdouble\\b", "\\bfloat\\b",
+            "\\bhashCode\\b", "\\btoString\\b", "\\bvar\\b", "\\bObject\\b", "\\bRandom\\b", "System\\.(?!arraycopy)",
+            "Math\\.(?!min|max|abs)", "\\bstatic\\s*\\{", "\"\\s*\\+", "\\+\\s*\""};
+        for (String word : forbidden) {
+            Matcher m = Pattern.compile(word).matcher(code);
+            Desk.due("forbidden " + word, m.find() ? "found" : "none", "none");
+        }
+        Matcher statics = Pattern.compile("\\bstatic\\s+(?!final\\b)(?!class\\b)[\\w\\[\\]]+\\s+\\w+\\s*[=;]").matcher(code);
+        Desk.due("rule 5: static fields that are not final", statics.find() ? statics.group() : "none", "none");
+        boolean plain = true;
+        for (int i = 0; i < code.length(); i++) {
+            plain &= code.charAt(i) < 128;
+        }
+        Desk.due("signs of the text", plain ? "plain" : "others", "plain");
+    }
+
+    /** Methods stay short, take at most seven parameters, and make nothing but in constructors. */
+    private static void shape(String code) {
+        String[] lines = code.split("\n");
+        Pattern head = Pattern.compile("^( {4}| {8})(?:[\\w\\[\\]]+ )*(\\w+)\\(([^)]*)\\) \\{$");
+        List<String> tooLong = new ArrayList<>();
+        List<String> makers = new ArrayList<>();
+        for (int i = 0; i < lines.length; i++) {
+            Matcher m = head.matcher(lines[i]);
+            if (!m.find()) {
+                continue;
+            }
+            int to = i;
+            while (!lines[to].equals(m.group(1) + "}")) {
+                if (lines[to].contains("new ") && !Character.isUpperCase(m.group(2).charAt(0))) {
+                    makers.add(m.group(2));
+                }
+                to++;
+            }
+            if (to - i > 60 || m.group(3).split(",").length > 7) {
+                tooLong.add(m.group(2));
+            }
+        }
+        Desk.due("rule 11: methods too long", tooLong.toString(), "[]");
+        Desk.due("rule 12: methods that make something", makers.toString(), "[]");
+    }
+}
