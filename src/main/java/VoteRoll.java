@@ -1,7 +1,8 @@
 /**
  * A roll of those who may vote. The document's promises are met by the public methods; each looks at
- * its arguments first and hands the work to one of the classes inside, none of which makes an object
- * or an array once the roll has been made.
+ * its arguments first and hands the work to one of the classes inside. These make their rows once;
+ * only the rows of names and of pairs grow, by doubling, since most rolls are small and all rolls of
+ * a run share one room.
  */
 public final class VoteRoll {
     public static final int NONE = -1;
@@ -1045,12 +1046,14 @@ public final class VoteRoll {
     /** The RECORDS, and their order by DAYS. */
     private static final class Book {
         static final int ROOM = 120;
+        static final int PAIRS = ROOM * (ROOM - 1) / 2;
         static final int LIVES = 0;
         static final int MOVED = 1;
         static final int DEAD = 2;
         static final int ABROAD = 3;
         static final int NO_DOOR = 4;
         static final int ASKS = 5;
+        private static final int FIRST_ROOM = 8;
         private static final int LETTERS = 12;
         private static final int FOLDED_LETTERS = LETTERS * Folds.MOST_LETTERS;
 
@@ -1063,9 +1066,9 @@ public final class VoteRoll {
         final int[] known;
         final boolean[] hidden;
         final int[] byDay;
-        final byte[] toldNames;
+        private byte[] toldNames;
         final int[] toldSize;
-        final byte[] foldedNames;
+        byte[] foldedNames;
         final int[] foldedSize;
         int size;
 
@@ -1079,9 +1082,9 @@ public final class VoteRoll {
             known = new int[ROOM];
             hidden = new boolean[ROOM];
             byDay = new int[ROOM];
-            toldNames = new byte[2 * ROOM * LETTERS];
+            toldNames = new byte[2 * FIRST_ROOM * LETTERS];
             toldSize = new int[2 * ROOM];
-            foldedNames = new byte[2 * ROOM * FOLDED_LETTERS];
+            foldedNames = new byte[2 * FIRST_ROOM * FOLDED_LETTERS];
             foldedSize = new int[2 * ROOM];
         }
 
@@ -1101,8 +1104,22 @@ public final class VoteRoll {
             return record >= 0 && record < size;
         }
 
+        private void makeRoomForNames() {
+            int room = toldNames.length / (2 * LETTERS);
+            if (size < room) {
+                return;
+            }
+            byte[] told = new byte[2 * toldNames.length];
+            System.arraycopy(toldNames, 0, told, 0, toldNames.length);
+            toldNames = told;
+            byte[] folded = new byte[2 * foldedNames.length];
+            System.arraycopy(foldedNames, 0, folded, 0, foldedNames.length);
+            foldedNames = folded;
+        }
+
         /** Reads the names of the RECORD that comes next: the place of the FAULT, or NONE. */
         int readNames(Tape tape) {
+            makeRoomForNames();
             tape.rewind();
             if (!readName(tape, 2 * size)) {
                 return tape.from;
@@ -1218,6 +1235,7 @@ public final class VoteRoll {
         private static final int UNKNOWN = 2;
         private static final int FAR = MOST_SLACK + 1;
         private static final int NAMELESS = FAR + 1;
+        private static final int FIRST_PAIRS = 28;
 
         private final Book book;
         final int[] sameAgree;
@@ -1231,7 +1249,7 @@ public final class VoteRoll {
         long lower;
         /** RECORDS whose likeness to all lower ones stands. */
         int likened;
-        private final short[] likeness;
+        private short[] likeness;
         private final int[] above;
         private final int[] below;
 
@@ -1243,13 +1261,19 @@ public final class VoteRoll {
             priorLower = 100;
             boundUpper = 1;
             boundLower = 1;
-            likeness = new short[Book.ROOM * (Book.ROOM - 1) / 2];
+            likeness = new short[FIRST_PAIRS];
             above = new int[Book.FOLDED_LETTERS + 1];
             below = new int[Book.FOLDED_LETTERS + 1];
         }
 
         /** The likeness of names is kept as their DISTANCE, so that another SLACK leaves it standing. */
         void likenAll() {
+            int needed = book.size * (book.size - 1) / 2;
+            if (needed > likeness.length) {
+                short[] more = new short[Math.min(2 * needed, Book.PAIRS)];
+                System.arraycopy(likeness, 0, more, 0, likeness.length);
+                likeness = more;
+            }
             for (int j = likened; j < book.size; j++) {
                 for (int i = 0; i < j; i++) {
                     int packed = nameLikeness(i, j, 0) + 6 * nameLikeness(i, j, 1)
@@ -1366,7 +1390,7 @@ public final class VoteRoll {
 
         private final Book book;
         private final Odds odds;
-        private final int[] pairs;
+        private int[] pairs;
         private final int[] kindRank;
         private final int[] ranked;
         private final long[] rankUpper;
@@ -1386,7 +1410,7 @@ public final class VoteRoll {
         Persons(Book book, Odds odds) {
             this.book = book;
             this.odds = odds;
-            pairs = new int[Book.ROOM * (Book.ROOM - 1) / 2];
+            pairs = new int[Odds.FIRST_PAIRS];
             kindRank = new int[Odds.KINDS];
             ranked = new int[Odds.KINDS];
             rankUpper = new long[Odds.KINDS];
@@ -1461,6 +1485,9 @@ public final class VoteRoll {
                 rankStart[r + 1] += rankStart[r];
             }
             pairCount = rankStart[rankedSize];
+            if (pairCount > pairs.length) {
+                pairs = new int[Math.min(2 * pairCount, Book.PAIRS)];
+            }
             for (int i = 0; i < book.size; i++) {
                 for (int j = i + 1; j < book.size; j++) {
                     int rank = kindRank[odds.kindOf(i, j)];

@@ -144,7 +144,7 @@ public final class RobustTest {
             }
         }
         System.out.println("a new roll: " + seen.size() + " objects and arrays, " + parts + " fields and elements");
-        Desk.due("few objects", seen.size() <= 120 ? 1 : 0, 1);
-        Desk.due("few fields and elements", parts <= 40000 ? 1 : 0, 1);
+        Desk.due("few objects", seen.size() <= 100 ? 1 : 0, 1);
+        Desk.due("few fields and elements", parts <= 10000 ? 1 : 0, 1);
     }
 }
