@@ -1319,8 +1319,8 @@ public final class VoteRoll {
                 int letter = book.foldedNames[first + r - 1];
                 for (int c = from; c <= to; c++) {
                     int changed = above[c - 1] + (letter == book.foldedNames[second + c - 1] ? 0 : 1);
-                    int over = c < r + MOST_SLACK ? above[c] : FAR;
-                    int least = Math.min(changed, 1 + Math.min(over, below[c - 1]));
+                    // the last cell of the band has none above it in the band: FAR still stands there
+                    int least = Math.min(changed, 1 + Math.min(above[c], below[c - 1]));
                     below[c] = Math.min(least, FAR);
                 }
                 for (int c = from - 1; c <= to; c++) {

@@ -117,6 +117,7 @@ public final class FactsTest {
         Desk.due("14: an earlier ANSWER", roll.of(0, 110, 200, 4), 105);
         roll.act(0, 1, 109, 150);
         Desk.due("14: a later ANSWER", roll.of(0, 110, 200, 4), 109);
+        Desk.due("14: on its DAY", roll.of(0, 109, 200, 4), 109);
         Desk.due("14: not known yet", roll.of(0, 110, 149, 4), 105);
         Desk.due("14: not given yet", roll.of(0, 108, 200, 4), 105);
         roll.act(0, 0, 110, 150);
@@ -230,6 +231,12 @@ public final class FactsTest {
         Desk.due("19: double it stays", holds(desk, "double", 127), 1);
         desk.tell("a,", 3, -1, -1, 130);
         Desk.due("19: ABROAD ten DAYS", holds(desk, "away", 140), 0);
+        desk.law("strike if away");
+        Desk.due("19: ABROAD 5000 DAYS", desk.roll.cause(0, 5130, 5130), 0);
+        Desk.due("19: away without", desk.roll.cause(0, 5131, 5131), 1);
+        desk.law("strike if young");
+        Desk.due("19: age 6570 without", desk.roll.cause(0, 6669, 6669), 1);
+        Desk.due("19: age 6570 without", desk.roll.cause(0, 6670, 6670), 0);
         Desk.due("19: away", holds(desk, "away", 141), 1);
         Desk.due("19: silent by 20", holds(desk, "silent 20", 150), 0);
         Desk.due("19: silent by 20 on the next", holds(desk, "silent 20", 151), 1);

@@ -8,6 +8,8 @@ public final class JoinsTest {
         persons();
         order();
         quarrels();
+        firstBound();
+        closeOdds();
         Desk.finish();
     }
 
@@ -168,6 +170,50 @@ public final class JoinsTest {
         Desk.due("12: the lowest RECORD known", desk.roll.person(2, 8), 1);
         Desk.due("13: PERSONS known", desk.roll.joined(8, 0), 2);
         Desk.due("12: alone", desk.roll.person(3, 9), 3);
+    }
+
+    private static void firstBound() {
+        Desk desk = new Desk();
+        desk.roll.field(0, 10, 1);
+        desk.roll.field(1, 10, 1);
+        desk.record("a,b", 0, 6, -1, -1, -1, 0, 0);
+        desk.record("a,b", 0, 6, -1, -1, -1, 0, 0);
+        Desk.due("12: BOUND is 1 to 1 at first", desk.roll.person(1, 0), 0);
+        desk.roll.field(1, 19, 2);
+        Desk.due("12: just below it", desk.roll.person(1, 0), 1);
+    }
+
+    /** 2 is like 0 by the family's name, like 1 by the given one; LIST 0 names each ONCE. */
+    private static int nearer(int familyM, int familyU, int givenM, int givenU) {
+        Desk desk = new Desk();
+        desk.roll.terms(0, 1, 1, 1, 1, 1);
+        desk.roll.field(0, familyM, familyU);
+        desk.roll.field(1, givenM, givenU);
+        desk.record("a,", 0, 6, -1, -1, -1, 0, 0);
+        desk.record(",b", 0, 6, -1, -1, -1, 0, 0);
+        desk.record("a,b", 1, 6, -1, -1, -1, 0, 0);
+        return desk.roll.person(2, 0);
+    }
+
+    private static void closeOdds() {
+        Desk.due("12: 9 and 9 1/2", nearer(90, 10, 95, 10), 1);
+        Desk.due("12: 9 1/2 and 9", nearer(95, 10, 90, 10), 0);
+        Desk.due("12: 9 and 9: the lower", nearer(90, 10, 9, 1), 0);
+        Desk.due("12: 3 1/2 and 3 1/3", nearer(7, 2, 10, 3), 0);
+        Desk.due("12: 3 1/3 and 3 1/2", nearer(10, 3, 7, 2), 1);
+        Desk.due("12: 3 2/5 and 3 1/2", nearer(17, 5, 7, 2), 1);
+        Desk.due("12: 98/97 and 97/96", nearer(98, 97, 97, 96), 1);
+        Desk.due("12: 97/96 and 98/97", nearer(97, 96, 98, 97), 0);
+        for (int m = 20; m <= 99; m += 7) {
+            for (int u = 3; u < 20; u += 4) {
+                for (int n = 21; n <= 99; n += 6) {
+                    for (int v = 2; v < 20; v += 3) {
+                        Desk.due("12: " + m + "/" + u + " and " + n + "/" + v, nearer(m, u, n, v),
+                                m * v >= n * u ? 0 : 1);
+                    }
+                }
+            }
+        }
     }
 
     private static void quarrels() {

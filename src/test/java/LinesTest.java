@@ -173,6 +173,10 @@ public final class LinesTest {
         Desk.due("22: so many never", roll.lacks(0, 300), 3);
         desk.law("strike if not dead; age 1");
         Desk.due("22: notice 1 days 30 without", roll.lacks(0, 300), 0);
+        roll.act(0, STRIKE, 130, 0);
+        roll.act(0, STRIKE, 129, 0);
+        Desk.due("22: 30 DAYS without", roll.lacks(5, 300), 0);
+        Desk.due("22: 29 DAYS", roll.lacks(6, 300), 3);
         desk.law("strike if not dead; age 120");
         Desk.due("22: NOTICES ahead of the DAY on which it came of age", roll.lacks(0, 300), 3);
         Desk before = asking("age 1; notice 1 days 5; appeal 50; strike if not dead");
@@ -183,6 +187,16 @@ public final class LinesTest {
         Desk.due("22: a NOTICE ahead of the DAY on which it was IN last", before.roll.lacks(3, 300), 3);
         before.roll.act(0, NOTICE, 130, 0);
         Desk.due("22: one on that DAY", before.roll.lacks(3, 300), 0);
+        Desk same = asking("age 1; notice 1 days 0; strike if not dead");
+        same.roll.act(0, STRIKE, 120, 0);
+        Desk.due("22: none", same.roll.lacks(0, 300), 3);
+        same.roll.act(0, NOTICE, 120, 0);
+        Desk.due("22: NOTICES go by DAYS, not as told", same.roll.lacks(0, 300), 0);
+        Desk answer = asking("age 1; notice 1 days 0; strike if not dead");
+        answer.roll.act(0, ANSWER, 110, 0);
+        answer.roll.act(0, NOTICE, 110, 0);
+        answer.roll.act(0, STRIKE, 120, 0);
+        Desk.due("22: and so do ANSWERS", answer.roll.lacks(2, 300), 4);
     }
 
     private static void answers() {

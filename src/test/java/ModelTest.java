@@ -54,8 +54,33 @@ public final class ModelTest {
         }
     }
 
+    /** Many records that are nearly alike, M and U that make close ODDS, LISTS that name each ONCE. */
+    private void joinStep() {
+        int pick = random.nextInt(10);
+        if (pick < 2 && model.records.size() < 16) {
+            record();
+        } else if (pick < 5) {
+            int f = random.nextInt(5);
+            int m = 60 + random.nextInt(8) * 5;
+            int u = 1 + random.nextInt(30);
+            same("field(" + f + "," + m + "," + u + ")", roll.field(f, m, u), model.field(f, m, u));
+        } else if (pick < 6) {
+            terms(random.nextInt(4), 1, 1 + random.nextInt(20), 1, 1 + random.nextInt(3), random.nextInt(256));
+        } else {
+            int k = random.nextInt(3) == 0 ? day() : Math.min(40000, lastDay);
+            for (int r = 0; r < model.records.size(); r++) {
+                same("person(" + r + "," + k + ")", roll.person(r, k), model.person(r, k));
+            }
+            same("joined(" + k + ",1)", roll.joined(k, 1), model.joined(k, 1));
+        }
+    }
+
     private void step(int mood) {
         int n = model.records.size();
+        if (!dense && mood == 3 && n > 2) {
+            joinStep();
+            return;
+        }
         int pick = random.nextInt(100);
         if (n < 3 || pick < (mood == 0 ? 25 : 8) && n < (mood == 1 ? 8 : 40)) {
             record();

@@ -135,6 +135,19 @@ public final class TextsTest {
         Desk.due("5: a sign at the end", desk.lawFault("age 1;"), 6);
         Desk.due("5: a sign at the beginning", desk.lawFault(" ;age 1"), 1);
         Desk.due("5: a minus", desk.lawFault("age -1"), 4);
+        Desk.due("5: a wrong first letter", desk.lawFault("bge 1"), 0);
+        Desk.due("5: a wrong first letter", desk.lawFault("strike if bead"), 10);
+        Desk.due("5: a wrong last letter", desk.lawFault("strike if deat"), 10);
+        Desk.due("5: strike alone", desk.lawFault("strike"), 6);
+        Desk.due("5: strike and the next", desk.lawFault("strike; age 1"), 6);
+        Desk.due("5: strike if and the next", desk.lawFault("strike if; age 1"), 9);
+        String[] ahead = {"age ", "quiet ", "appeal ", "abroad ", "notice ", "notice 1 days ", "strike if silent "};
+        for (String words : ahead) {
+            String behind = words.equals("notice ") ? " days 1" : "";
+            Desk.due("5: " + words + "40001", desk.lawFault(words + "40001" + behind), words.length());
+            Desk.due("5: " + words + "40000", desk.lawFault(words + "40000" + behind), -1);
+        }
+        Desk.due("5: nodoor 999", desk.lawFault("nodoor 999"), -1);
     }
 
     private static void lawLimits() {
@@ -235,5 +248,15 @@ public final class TextsTest {
         desk.tell("aab,abab", 6, -1, -1, 0);
         Desk.due("8: what came is not folded again", desk.folded(2, 0), "cba");
         Desk.due("8: it goes on behind", desk.folded(2, 1), "baba");
+        desk.folds("ph>f");
+        desk.tell("xxxxxxxxxxxp,hp", 6, -1, -1, 0);
+        desk.tell("h,", 6, -1, -1, 0);
+        Desk.due("8: each name is alone", desk.folded(3, 0) + "," + desk.folded(3, 1), "xxxxxxxxxxxp,hp");
+        desk.type("a,pppppppppppppp");
+        desk.roll.record(0, 6, -1, -1, -1, 0, 0);
+        desk.type("p,h b");
+        desk.roll.record(0, 6, -1, -1, -1, 0, 0);
+        desk.tell("p,", 6, -1, -1, 0);
+        Desk.due("8: nothing is left of a RECORD refused", desk.folded(5, 0) + "," + desk.folded(5, 1), "p,");
     }
 }
