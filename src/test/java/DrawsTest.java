@@ -28,6 +28,11 @@ public final class DrawsTest {
     }
 
     private static void missing() {
+        VoteRoll one = new VoteRoll();
+        one.doors(8, 1, 0, 0);
+        Desk.due("27: the sum of one that guesses none", one.missing(-1, 2), 0);
+        one.doors(8, 1, 1, 1);
+        Desk.due("27: the sum of one door", one.missing(-1, 2), 1);
         VoteRoll roll = new VoteRoll();
         // 20 doors, 1 drawn: it misses somebody by x / 20, so 1 is just a twentieth
         roll.doors(0, 20, 1, 1);

@@ -54,6 +54,8 @@ public final class LinesTest {
         Desk.due("17: no RECORD comes first", roll.act(1, 0, 0, 0), -2);
         Desk.due("17: a wrong number comes first", roll.act(1, 7, 0, 0), -1);
         Desk.due("17: count(4)", roll.count(4), 200);
+        Desk.due("22: behind the last ACT", roll.lacks(200, 40000), -1);
+        Desk.due("22: far behind the last ACT", roll.lacks(201, 40000), -1);
     }
 
     private static void votes() {
