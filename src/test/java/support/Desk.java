@@ -57,6 +57,14 @@ final class Desk {
         return record(names, 0, sort, birth, place, -1, day, day);
     }
 
+    /** So many RECORDS without names that say nothing, by two calls each: an object has 512 of them alone. */
+    void fill(int records) {
+        for (int i = 0; i < records; i++) {
+            roll.feed(0x2c202020, 0x20202020, 0x20202020, 0x20202020, 0x20202020);
+            roll.record(0, 6, -1, -1, -1, 0, 0);
+        }
+    }
+
     String folded(int record, int which) {
         StringBuilder text = new StringBuilder();
         for (int i = 0; i < roll.folded(record, which, -1); i++) {
