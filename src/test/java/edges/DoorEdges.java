@@ -144,6 +144,8 @@ final class DoorEdges {
         VoteRoll none = new VoteRoll();
         none.doors(5, 9, 0, 0);
         Edge.due("the sum of one that guesses 0", none.missing(NONE, 2), 0);
+        none.doors(6, 1, 1, 1);
+        Edge.due("the sum with one door that misses somebody", none.missing(NONE, 2), 1);
     }
 
     private static void missingWithout() {

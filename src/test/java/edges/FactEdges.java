@@ -281,6 +281,11 @@ final class FactEdges {
         Edge.due("the next WARD", doubleBy(100, 20), 1);
         Edge.due("the WARD ahead", doubleBy(49, 20), 1);
         Edge.due("a DAY ahead of the second", doubleBy(100, 19), 0);
+        Desk both = desk("strike if double");
+        both.tell("a,", 5, NONE, 50, 10);
+        both.tell("a,", 5, NONE, 100, 20);
+        Edge.due("on the DAY of the second", both.roll.cause(0, 20, 40000), 1);
+        Edge.due("and asked again a DAY ahead of it", both.roll.cause(0, 19, 40000), 0);
         Desk desk = desk("strike if double");
         desk.tell("a,", 5, NONE, 50, 10);
         desk.tell("a,", 0, NONE, 100, 20);

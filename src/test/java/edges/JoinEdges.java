@@ -28,12 +28,16 @@ final class JoinEdges {
 
     /** How many FIELDS AGREE of two RECORDS that have a family's name alone. */
     private static long agreeing(String folds, String one, String other, int slack) {
+        return agreeing(folds, one + ",", other + ",", slack, 4);
+    }
+
+    private static long agreeing(String folds, String one, String other, int slack, int what) {
         Desk desk = new Desk();
         desk.folds(folds);
-        desk.tell(one + ",", 6, NONE, NONE, 0);
-        desk.tell(other + ",", 6, NONE, NONE, 0);
+        desk.tell(one, 6, NONE, NONE, 0);
+        desk.tell(other, 6, NONE, NONE, 0);
         desk.roll.terms(slack, 1, 1, 1, 1, 0);
-        return desk.roll.odds(0, 1, 4);
+        return desk.roll.odds(0, 1, what);
     }
 
     private static void distance() {
@@ -49,12 +53,24 @@ final class JoinEdges {
                 String what = c[0] + " and " + c[1] + " by SLACK " + slack;
                 Edge.due(what, agreeing("", c[0], c[1], slack), far <= slack ? 1 : 0);
                 Edge.due(what + " turned", agreeing("", c[1], c[0], slack), far <= slack ? 1 : 0);
+                Edge.due(what + " as given ones", agreeing("", "," + c[0], "," + c[1], slack, 4), far <= slack ? 1 : 0);
+                Edge.due(what + " differ if they don't AGREE", agreeing("", c[0] + ",", c[1] + ",", slack, 1),
+                        far <= slack ? 1 : 9);
             }
         }
         Edge.due("FOLDED to the same", agreeing("ph>f", "phil", "fil", 0), 1);
         Edge.due("the same as told, FOLDED apart by one", agreeing("ab>x", "ab", "b", 0), 0);
         Edge.due("one apart as told, three FOLDED", agreeing("a>xyz", "ab", "b", 2), 0);
         Edge.due("one apart as told, three FOLDED", agreeing("a>xyz", "ab", "b", 3), 1);
+        String twelve = "a".repeat(12);
+        Edge.due("36 letters FOLDED, the same", agreeing("a>xyz", twelve, twelve, 0), 1);
+        String last = "a".repeat(11) + "b";
+        Edge.due("36 letters FOLDED, the last changed, by SLACK 0", agreeing("a>xyz,b>xyw", twelve, last, 0), 0);
+        Edge.due("36 letters FOLDED, the last changed, by SLACK 1", agreeing("a>xyz,b>xyw", twelve, last, 1), 1);
+        String first = "b" + "a".repeat(11);
+        Edge.due("36 letters FOLDED, three put in ahead and taken out behind", agreeing("a>xyz,b>uvw", first, last, 3), 0);
+        Edge.due("36 and 33 letters FOLDED, by SLACK 3", agreeing("a>xyz,b>", twelve, first, 3), 1);
+        Edge.due("36 and 33 letters FOLDED, by SLACK 2", agreeing("a>xyz,b>", first, twelve, 2), 0);
     }
 
     private static void agree() {
@@ -309,6 +325,15 @@ final class JoinEdges {
         Edge.due("ODDS just BOUND in other terms", joinedBy(2, 3, 600, 900), 1);
         Edge.due("ODDS just above BOUND", joinedBy(1000, 999, 1, 1), 1);
         Edge.due("ODDS just below BOUND", joinedBy(999, 1000, 1, 1), 2);
+        Desk five = new Desk();
+        five.record("a,b", 0, 6, 1, 2, 3, 0, 0);
+        five.record("a,b", 0, 6, 1, 2, 3, 0, 0);
+        five.roll.terms(0, 1, 1, 1, 1, 0);
+        Edge.due("all FIELDS AGREE, above BOUND", five.roll.joined(0, 0), 1);
+        five.roll.field(0, 1, 99);
+        five.roll.field(1, 1, 99);
+        five.roll.field(2, 1, 99);
+        Edge.due("all FIELDS AGREE, below BOUND", five.roll.joined(0, 0), 2);
         Edge.due("by the least difference above", joinedBy(999, 998, 1000, 999), 1);
         Edge.due("by the least difference below", joinedBy(1000, 999, 999, 998), 2);
         Edge.due("the greatest BOUND just reached", joinedBy(1000, 1, 1000, 1), 1);
@@ -330,6 +355,19 @@ final class JoinEdges {
             Edge.due("x " + number, roll.terms(0, 1, 1, number, 1, 0), -1);
             Edge.due("y " + number, roll.terms(0, 1, 1, 1, number, 0), -1);
         }
+        // 0 and 1 AGREE by the family's name, 0 and 2 by the given one; these ODDS fall below BOUND later
+        Desk fallen = new Desk();
+        fallen.roll.terms(0, 1, 1, 1000, 999, 0);
+        fallen.roll.field(1, 50, 10);
+        fallen.tell("a,b", 6, NONE, NONE, 0);
+        fallen.tell("a,", 6, NONE, NONE, 0);
+        fallen.tell(",b", 6, NONE, NONE, 0);
+        Edge.due("both reach it", fallen.roll.joined(0, 0), 1);
+        fallen.roll.field(0, 20, 10);
+        fallen.roll.field(1, 1, 10);
+        Edge.due("one reaches it no more", fallen.roll.joined(0, 0), 2);
+        Edge.due("the one that does", fallen.roll.person(1, 0), 0);
+        Edge.due("the one that does not", fallen.roll.person(2, 0), 2);
         // five FIELDS that AGREE by 99 to 1 and BOUND 1000 to 1: the products stay exact
         Desk far = new Desk();
         far.record("a,b", 0, 6, 1, 2, 3, 0, 0);
@@ -358,6 +396,96 @@ final class JoinEdges {
         return desk.roll.person(2, 0);
     }
 
+    /**
+     * RECORDS 0 to 4 have one FIELD each, RECORD 5 has them all. Two of the five at a time are of a LIST that names
+     * each ONCE: the one with the greater ODDS is with RECORD 5, the other one is not. By every row of five M and U.
+     */
+    private static void orderOfFive(int a, int b, int[][] mu) {
+        for (int turn = 0; turn < 120; turn++) {
+            int[][] row = rowOf(mu, turn);
+            int one = turn % 5;
+            int other = (one + 1 + turn / 5 % 4) % 5;
+            Desk desk = new Desk();
+            desk.roll.terms(0, a, b, 1000, 999, 1);
+            for (int f = 0; f < 5; f++) {
+                desk.roll.field(f, row[f][0], row[f][1]);
+            }
+            for (int i = 0; i <= 5; i++) {
+                int list = i == one || i == other ? 0 : 1;
+                desk.record((i % 5 == 0 ? "a" : "") + "," + (i == 1 || i == 5 ? "b" : ""), list, 6, i == 2 || i == 5 ? 7 : NONE,
+                        i == 3 || i == 5 ? 8 : NONE, i == 4 || i == 5 ? 9 : NONE, 0, 0);
+            }
+            boolean oneFirst = row[one][0] * row[other][1] > row[other][0] * row[one][1];
+            int ofAll = desk.roll.person(5, 0);
+            Edge.due("row " + turn + ": one is with it", desk.roll.person(one, 0) == ofAll ? 1 : 0, oneFirst ? 1 : 0);
+            Edge.due("row " + turn + ": the other is with it", desk.roll.person(other, 0) == ofAll ? 1 : 0, oneFirst ? 0 : 1);
+            Edge.due("row " + turn + ": PERSONS", desk.roll.joined(0, 0), 2);
+            Edge.due("row " + turn + ": QUARRELS", desk.roll.joined(0, 1), 1);
+        }
+    }
+
+    /** The five in the order of that number, of 120. */
+    private static int[][] rowOf(int[][] five, int number) {
+        java.util.List<int[]> left = new java.util.ArrayList<>(java.util.Arrays.asList(five));
+        int[][] row = new int[5][];
+        int rest = number;
+        for (int i = 0; i < 5; i++) {
+            row[i] = left.remove(rest % (5 - i));
+            rest /= 5 - i;
+        }
+        return row;
+    }
+
+    /** 100 RECORDS whose pairs AGREE, differ and are unknown in all 243 ways, each with ODDS of its own. */
+    private static void allKinds() {
+        VoteRoll roll = new VoteRoll();
+        Model model = new Model();
+        int[] m = {52, 53, 55, 58, 61};
+        for (int f = 0; f < 5; f++) {
+            roll.field(f, m[f], 50);
+            model.field(f, m[f], 50);
+        }
+        java.util.Random random = new java.util.Random(7);
+        java.util.Set<String> kinds = new java.util.TreeSet<>();
+        for (int i = 0; i < 100; i++) {
+            int[] n = new int[5];
+            for (int f = 0; f < 5; f++) {
+                n[f] = random.nextInt(5) == 0 ? NONE : random.nextInt(2);
+            }
+            int[] text = {letter(n[0]) << 24 | ',' << 16 | letter(n[1]) << 8 | ' ', 0x20202020, 0x20202020, 0x20202020, 0x20202020};
+            roll.feed(text[0], text[1], text[2], text[3], text[4]);
+            model.feed(text);
+            roll.record(i % 8, 6, n[2], n[3], n[4], 0, 0);
+            model.record(i % 8, 6, n[2], n[3], n[4], 0, 0);
+            for (int j = 0; j < i; j++) {
+                StringBuilder kind = new StringBuilder();
+                for (int f = 0; f < 5; f++) {
+                    kind.append(model.state(model.records.get(i), model.records.get(j), f)).append(' ');
+                }
+                kinds.add(kind.toString());
+            }
+        }
+        Edge.due("ways in which two RECORDS are alike", kinds.size(), 243);
+        for (int once : new int[] {255, 15, 0}) {
+            roll.terms(0, 1000, 1, 1, 1000, once);
+            model.terms(0, 1000, 1, 1, 1000, once);
+            Edge.due("PERSONS by ONCE " + once, roll.joined(0, 0), model.joined(0, 0));
+            Edge.due("QUARRELS by ONCE " + once, roll.joined(0, 1), model.joined(0, 1));
+        }
+        roll.terms(0, 1000, 1, 1, 1000, 129);
+        model.terms(0, 1000, 1, 1, 1000, 129);
+        java.util.Map<Integer, java.util.TreeSet<Integer>> persons = model.persons(0);
+        for (java.util.Map.Entry<Integer, java.util.TreeSet<Integer>> p : persons.entrySet()) {
+            for (int record : p.getValue()) {
+                Edge.due("PERSON of " + record, roll.person(record, 0), p.getKey());
+            }
+        }
+    }
+
+    private static int letter(int n) {
+        return n == NONE ? ' ' : 'a' + n;
+    }
+
     /** Four RECORDS alike; those of LIST 0 are told by ones. */
     private static String alikes(int... lists) {
         Desk desk = new Desk();
@@ -381,6 +509,10 @@ final class JoinEdges {
         Edge.due("alike: the lower first RECORD", whoIsNearer(2, 1, 2, 1), 0);
         Edge.due("alike in other terms: the lower first RECORD", whoIsNearer(98, 49, 2, 1), 0);
         Edge.due("alike in other terms, turned", whoIsNearer(2, 1, 98, 49), 0);
+        orderOfFive(1, 2, new int[][] {{90, 10}, {90, 12}, {90, 15}, {90, 20}, {90, 30}});
+        orderOfFive(1, 1, new int[][] {{93, 92}, {94, 93}, {95, 94}, {96, 95}, {97, 96}});
+        orderOfFive(1, 1, new int[][] {{98, 49}, {95, 38}, {70, 30}, {90, 40}, {96, 40}});
+        allKinds();
         Edge.due("alike: the lower other one", alikes(1, 0, 0, 1), "0020");
         Edge.due("alike: the lower first one", alikes(0, 0, 1, 1), "0100");
         Edge.due("none in common", alikes(1, 2, 3, 4), "0000");

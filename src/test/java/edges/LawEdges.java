@@ -53,6 +53,7 @@ final class LawEdges {
             Edge.due(word + " with two numbers", fault(word + " 1 1"), word.length() + 3);
             Edge.due(word + " less its last letter", fault(word.substring(0, word.length() - 1) + " 1"), 0);
             Edge.due(word + " with a letter more", fault(word + "s 1"), 0);
+            Edge.due(word + " with another first letter", fault("x" + word.substring(1) + " 1"), 0);
         }
         Edge.due("notice with days", fault("notice 1 days 1"), NONE);
         Edge.due("notice and the end", fault("notice"), 6);
@@ -109,6 +110,7 @@ final class LawEdges {
             Edge.due(word + " with a number", causeFault(word + " 1"), word.length() + 1);
             Edge.due(word + " less its last letter", causeFault(word.substring(0, word.length() - 1)), 0);
             Edge.due(word + " with a letter more", causeFault(word + "s"), 0);
+            Edge.due(word + " with another first letter", causeFault("x" + word.substring(1)), 0);
         }
         for (String word : new String[] {"silent", "ward"}) {
             Edge.due(word + " with a number", causeFault(word + " 1"), NONE);

@@ -14,6 +14,7 @@ final class LineEdges {
 
     static void look() {
         roomForActs();
+        personOfAll();
         aboutThePerson();
         roomForVotes();
         beginsOut();
@@ -88,6 +89,47 @@ final class LineEdges {
         Edge.due("the 200th is done, the 201st is not", desk.roll.line(0, 150, 150), 2);
         Edge.due("what the 200th LACKS", desk.roll.lacks(199, 150), 0);
         Edge.due("there is no 201st", desk.roll.lacks(200, 150), NONE);
+        Edge.due("TRIED with 200 TRUTHS and a STRIKE", desk.roll.tried(149, 149, 0), 1);
+        Edge.due("TRIED behind the STRIKE", desk.roll.tried(150, 150, 0), 0);
+        Desk notices = asking("age 0;notice 199 days 10;strike if not dead");
+        for (int i = 0; i < 199; i++) {
+            notices.roll.act(0, NOTICE, 140, 0);
+        }
+        notices.roll.act(0, STRIKE, 150, 0);
+        Edge.due("199 NOTICES and a STRIKE", notices.roll.lacks(199, 150), 0);
+        notices.law("age 0;notice 200 days 10;strike if not dead");
+        Edge.due("200 NOTICES are wanted", notices.roll.lacks(199, 150), 3);
+        Desk strikes = asking(EASY + ";appeal 0");
+        for (int i = 0; i < 200; i++) {
+            strikes.roll.act(0, i % 2 == 0 ? STRIKE : APPEAL, 150, 0);
+        }
+        Edge.due("100 STRIKES and APPEALS of one DAY", strikes.roll.line(0, 150, 150), 1);
+        Edge.due("the last STRIKE of these", strikes.roll.lacks(198, 150), 0);
+    }
+
+    /** The most RECORDS of one PERSON: asked for all that goes through them. */
+    private static void personOfAll() {
+        Edge.of("All its ACTS 0 .. 3 and RECORDS of SORT 5 known by k, of DAYS not behind d, in order of DAYS");
+        Desk desk = new Desk();
+        desk.roll.terms(0, 1, 1, 1, 1, 0);
+        desk.fill(120);
+        desk.roll.act(119, TRUTH_MAY, 0, 0);
+        Edge.due("120 RECORDS, none asks: the LINE", desk.roll.line(0, 40000, 40000), 0);
+        Edge.due("120 RECORDS, none asks: TRIED", desk.roll.tried(40000, 40000, 2), 0);
+        Edge.due("120 RECORDS, none asks: the WARDS", desk.roll.ward(NONE, 40000, 40000, 0), 0);
+        Desk asks = new Desk();
+        asks.roll.terms(0, 1, 1, 1, 1, 0);
+        asks.law(EASY);
+        asks.fill(118);
+        asks.record("a,", 0, 5, 0, 60, NONE, 20, 0);
+        asks.record("a,", 0, 5, 0, 60, NONE, 10, 0);
+        asks.roll.act(0, STRIKE, 15, 0);
+        asks.roll.act(0, TRUTH_MAY, 0, 0);
+        Edge.due("120 RECORDS, the last asks first", asks.roll.since(0, 14, 0), 10);
+        Edge.due("120 RECORDS, STRUCK between", asks.roll.line(0, 19, 0), 2);
+        Edge.due("120 RECORDS, the one ahead of it asks last", asks.roll.since(0, 40000, 0), 20);
+        Edge.due("120 RECORDS, TRIED", asks.roll.tried(20, 0, 0), 1);
+        Edge.due("120 RECORDS, the WARD", asks.roll.ward(1, 20, 0, 0), 1);
     }
 
     private static void aboutThePerson() {
@@ -357,6 +399,11 @@ final class LineEdges {
         Edge.due("two of one DAY are two", lackOfNotices("notice 2 days 10", 150, 150), 0);
         Edge.due("days 0, on s", lackOfNotices("notice 1 days 0", 200), 0);
         Edge.due("days 0, a DAY behind s", lackOfNotices("notice 1 days 0", 201), 3);
+        Desk behind = asking("notice 1 days 0;age 0;strike if not dead");
+        behind.roll.act(0, STRIKE, 200, 0);
+        Edge.due("days 0, none on s", behind.roll.lacks(0, 40000), 3);
+        behind.roll.act(0, NOTICE, 200, 0);
+        Edge.due("days 0, on s, told behind the STRIKE", behind.roll.lacks(0, 40000), 0);
         Edge.due("days 100, on the DAY of IN", lackOfNotices("notice 1 days 100", 100), 0);
         Edge.due("days 101, on the DAY of IN", lackOfNotices("notice 1 days 101", 100), 3);
         Edge.due("40000 NOTICES", lackOfNotices("notice 40000 days 0", 150), 3);
@@ -409,6 +456,11 @@ final class LineEdges {
         desk.roll.act(0, ANSWER, 170, 250);
         Edge.due("known a DAY too late", desk.roll.lacks(1, 249), 0);
         Edge.due("known just then", desk.roll.lacks(1, 250), 4);
+        Desk ahead = asking("notice 1 days 10;age 0;strike if not dead");
+        ahead.roll.act(0, ANSWER, 150, 0);
+        ahead.roll.act(0, NOTICE, 150, 0);
+        ahead.roll.act(0, STRIKE, 200, 0);
+        Edge.due("on the DAY of the one, told ahead of it", ahead.roll.lacks(2, 40000), 4);
     }
 
     private static void lackCause() {

@@ -15,6 +15,7 @@ final class NumberEdges {
         placesAndWards();
         lists();
         roomForRecords();
+        fullOfLongNames();
         names();
         birthPlaceNumber();
         dayOfWhichItSpeaks();
@@ -126,6 +127,42 @@ final class NumberEdges {
         Edge.due("RECORDS then", desk.roll.count(0), 120);
         Edge.due("the 121st is not there", desk.roll.person(120, 0), NONE);
         Edge.due("nor has it a name", desk.roll.folded(120, 0, -1), NONE);
+    }
+
+    /** The longest names of the most RECORDS: none is lost or takes another one's letters. */
+    private static void fullOfLongNames() {
+        Edge.of("A RECORD (120 at most) is of a LIST, has a SORT, two names (a family's, a given one; 0 .. 12 letters a .. z each)");
+        VoteRoll roll = new VoteRoll();
+        for (int i = 0; i < 120; i++) {
+            int letters = 'a' + i % 26 << 8 | 'a' + i / 26;
+            roll.feed(0x61616161, 0x62626262, 0x63630000 | letters, 0x2c646464, 0x64656565);
+            roll.feed(0x66660000 | letters, 0x7a202020, 0x20202020, 0x20202020, 0x20202020);
+            roll.record(i % 8, 6, NONE, NONE, NONE, 0, 0);
+            if (i == 7 || i == 8) {
+                roll.odds(0, i, 4);
+            }
+        }
+        Edge.due("RECORDS", roll.count(0), 120);
+        for (int i : new int[] {0, 7, 8, 15, 16, 31, 32, 63, 64, 119}) {
+            Edge.due("letters of the family's of " + i, roll.folded(i, 0, -1), 12);
+            Edge.due("the first letter of " + i, roll.folded(i, 0, 0), 'a');
+            Edge.due("the 11th letter of " + i, roll.folded(i, 0, 10), 'a' + i % 26);
+            Edge.due("the 12th letter of " + i, roll.folded(i, 0, 11), 'a' + i / 26);
+            Edge.due("the last letter of the given one of " + i, roll.folded(i, 1, 11), 'z');
+        }
+        Edge.due("0 and 26 are one letter apart in both names", roll.odds(0, 26, 4), 0);
+        roll.terms(1, 1, 1, 1, 1, 0);
+        Edge.due("0 and 26 AGREE by SLACK 1", roll.odds(0, 26, 4), 2);
+        Edge.due("0 and 27 do not", roll.odds(0, 27, 4), 0);
+        Edge.due("118 and 119 AGREE by SLACK 1", roll.odds(118, 119, 4), 2);
+        Edge.due("0 and 1, whose ODDS were asked for early, AGREE by SLACK 1", roll.odds(0, 1, 4), 2);
+        roll.terms(0, 1, 1, 1, 1, 0);
+        Edge.due("6 and 7, whose ODDS were asked for early, do not by SLACK 0", roll.odds(6, 7, 4), 0);
+        roll.feed(0x613e7820, 0x20202020, 0x20202020, 0x20202020, 0x20202020);
+        roll.folds();
+        Edge.due("the first letter of 0, FOLDED anew", roll.folded(0, 0, 0), 'x');
+        Edge.due("the first letter of 119, FOLDED anew", roll.folded(119, 0, 0), 'x');
+        Edge.due("the last letter of the given one of 7", roll.folded(7, 1, 11), 'z');
     }
 
     private static void names() {

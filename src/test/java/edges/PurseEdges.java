@@ -178,6 +178,7 @@ final class PurseEdges {
         roll.costs(0, 0);
         roll.plan(3, 0, 0);
         Edge.due("no CHANCES: nothing", row(roll, 3), "000");
+        unlikeRows();
         VoteRoll many = wishing(16);
         many.chances(0, 1, 2);
         many.costs(1, 2);
@@ -187,6 +188,36 @@ final class PurseEdges {
         Edge.due("sixteen knocks", row(many, 16), "2".repeat(16));
         many.plan(31, 0, 0);
         Edge.due("fifteen knocks and a letter", row(many, 16), "1" + "2".repeat(15));
+    }
+
+    /** WISH 0 is of CASE 0, WISH 1 of CASE 1, WISH 2 of CASE 2 on DAY 400. */
+    private static void unlikeRows() {
+        Desk desk = new Desk();
+        desk.record("a,", 0, 0, 1, 60, 1, 400, 0);
+        desk.record("b,", 0, 0, 2, 120, 2, 0, 0);
+        desk.record("c,", 0, 0, 3, 180, 3, 0, 0);
+        desk.record("c,", 0, 3, 3, NONE, 3, 1, 0);
+        desk.roll.terms(0, 1, 1, 1, 1, 0);
+        VoteRoll roll = desk.roll;
+        for (int i = 0; i < 3; i++) {
+            roll.wish(i);
+            Edge.due("the CASE of WISH " + i, roll.caseOf(i, 400, 400), i);
+        }
+        roll.costs(1, 1);
+        roll.chances(0, 10, 0);
+        roll.plan(1, 400, 400);
+        Edge.due("a letter for the first alone", row(roll, 3), "100");
+        roll.chances(1, 0, 10);
+        roll.plan(2, 400, 400);
+        Edge.due("a letter for the first, a knock for the second", row(roll, 3), "120");
+        roll.chances(2, 20, 20);
+        Edge.due("two of three", roll.plan(2, 400, 400), 30);
+        Edge.due("of alike ones the first as rows", row(roll, 3), "021");
+        roll.costs(1, 2);
+        roll.plan(3, 400, 400);
+        Edge.due("of alike CHANCES the least cost, though behind as rows", row(roll, 3), "101");
+        roll.plan(2, 400, 400);
+        Edge.due("two letters", row(roll, 3), "101");
     }
 
     private static void chances() {

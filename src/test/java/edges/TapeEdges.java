@@ -207,7 +207,11 @@ final class TapeEdges {
         Edge.due("a sign behind the 16th", desk.foldsFault(fifteen + "c>d, "), 65);
         Edge.due("no sign behind the 16th", desk.foldsFault(fifteen + "c>d e>f"), 64);
         Edge.due("a FAULT in the 16th", desk.foldsFault(fifteen + "c,"), 61);
+        String longest = "xyz>uvw,".repeat(15) + "abc>def";
         Edge.due("the FOLDS are those of ahead", desk.roll.count(1), 16);
+        Edge.due("16 of three letters each", desk.folds(longest), 16);
+        desk.tell("abcxyz,", 6, NONE, NONE, 0);
+        Edge.due("the first and the last of these", desk.folded(1, 0), "defuvw");
     }
 
     private static String fold(String folds, String name) {
@@ -232,6 +236,15 @@ final class TapeEdges {
         Edge.due("LETTERS at the very end", fold("bc>x", "abc"), "ax");
         Edge.due("LETTERS that the end cuts off", fold("bcd>x", "abc"), "abc");
         Edge.due("LETTERS longer than the name", fold("abc>x", "ab"), "ab");
+        Desk beside = new Desk();
+        beside.folds("ph>f");
+        beside.tell("aaaaaaaaaaap,hp", 6, NONE, NONE, 0);
+        beside.tell("h,h", 6, NONE, NONE, 0);
+        Edge.due("LETTERS do not go on from one name to the other", beside.folded(0, 0) + "," + beside.folded(0, 1),
+                "aaaaaaaaaaap,hp");
+        beside.record("ph,phx?", 0, 6, NONE, NONE, NONE, 0, 0);
+        beside.tell("p,p", 6, NONE, NONE, 0);
+        Edge.due("nor into what was refused", beside.folded(2, 0) + "," + beside.folded(2, 1), "p,p");
         Edge.due("no right ones", fold("a>", "banana"), "bnn");
         Edge.due("nothing is left", fold("a>", "aaa"), "");
         Edge.due("no name", fold("a>b", ""), "");
@@ -249,6 +262,16 @@ final class TapeEdges {
         Edge.due("one instead", desk.folds("e>f"), 1);
         desk.tell("ae,", 6, NONE, NONE, 0);
         Edge.due("the others are gone", desk.folded(0, 0), "af");
+        desk.folds("e>");
+        Edge.due("one that had right LETTERS has none", desk.folded(0, 0), "a");
+        desk.tell("af,", 6, NONE, NONE, 0);
+        Edge.due("FOLDED apart", desk.roll.odds(0, 1, 4), 0);
+        desk.folds("e>f");
+        Edge.due("FOLDED to the same", desk.roll.odds(0, 1, 4), 1);
+        desk.roll.terms(0, 1, 1, 1, 1, 0);
+        Edge.due("one PERSON by these FOLDS", desk.roll.joined(0, 0), 1);
+        desk.folds("e>");
+        Edge.due("two PERSONS by others", desk.roll.joined(0, 0), 2);
         Edge.due("blanks alone", desk.folds("   "), 0);
         Edge.due("count(1) then", desk.roll.count(1), 0);
         Edge.due("the name then", desk.folded(0, 0), "ae");
@@ -344,7 +367,10 @@ final class TapeEdges {
         Edge.due("it was read: the TAPE is empty", desk.roll.count(7), 0);
         Edge.due("the FAULT is told", desk.roll.fault(), 0);
         Edge.due("no RECORD came", desk.roll.count(0), 0);
-        desk.fill(119);
+        desk.record("abc,def?", 0, 6, NONE, NONE, NONE, 0, 0);
+        desk.fill(1);
+        Edge.due("nothing of it comes with the next", desk.folded(0, 0) + "," + desk.folded(0, 1), ",");
+        desk.fill(118);
         desk.tell("a,", 6, NONE, NONE, 0);
         desk.type("b,");
         Edge.due("-5", desk.roll.record(0, 6, NONE, NONE, NONE, 0, 0), -5);
