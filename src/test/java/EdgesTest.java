@@ -5,6 +5,7 @@
 public final class EdgesTest {
     public static void main(String[] args) throws Exception {
         NumberEdges.look();
+        RefusalEdges.look();
         TapeEdges.look();
         LawEdges.look();
         JoinEdges.look();

@@ -130,6 +130,24 @@ final class LineEdges {
         Edge.due("120 RECORDS, the one ahead of it asks last", asks.roll.since(0, 40000, 0), 20);
         Edge.due("120 RECORDS, TRIED", asks.roll.tried(20, 0, 0), 1);
         Edge.due("120 RECORDS, the WARD", asks.roll.ward(1, 20, 0, 0), 1);
+        VoteRoll full = new VoteRoll();
+        full.terms(0, 1, 1, 1, 1, 0);
+        // "age0;strike if dead or not dead;notice0days0"
+        full.feed(0x61676530, 0x3b737472, 0x696b6520, 0x69662064, 0x65616420);
+        full.feed(0x6f72206e, 0x6f742064, 0x6561643b, 0x6e6f7469, 0x63653064);
+        full.feed(0x61797330, 0x20202020, 0x20202020, 0x20202020, 0x20202020);
+        Edge.due("its LAW", full.law(), 3);
+        for (int i = 0; i < 120; i++) {
+            full.feed(0x2c202020, 0x20202020, 0x20202020, 0x20202020, 0x20202020);
+            full.record(0, 5, 0, 60, NONE, 10, 0);
+        }
+        for (int i = 0; i < 199; i++) {
+            full.act(0, i % 2 == 0 ? STRIKE : APPEAL, 11, 0);
+        }
+        Edge.due("120 that ask, 199 ACTS", full.line(0, 12, 0), 2);
+        full.act(0, APPEAL, 12, 0);
+        Edge.due("120 that ask, 200 ACTS", full.line(0, 12, 0), 1);
+        Edge.due("120 that ask, 200 ACTS: since", full.since(0, 12, 0), 12);
     }
 
     private static void aboutThePerson() {
