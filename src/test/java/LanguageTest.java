@@ -1,6 +1,10 @@
+import java.lang.reflect.Field;
+import java.lang.reflect.Method;
+import java.lang.reflect.Modifier;
 import java.nio.file.Files;
 import java.nio.file.Path;
 import java.util.ArrayList;
+import java.util.Arrays;
 import java.util.List;
 import java.util.TreeSet;
 import java.util.regex.Matcher;
@@ -8,10 +12,14 @@ import java.util.regex.Pattern;
 
 /** The rules of LANGUAGE.md that a look at the text and at the compiled class can hold. */
 public final class LanguageTest {
-    private static final String[] FACE = {"feed", "end", "folds", "law", "fault", "record", "folded", "field", "terms",
-        "odds", "person", "joined", "of", "led", "hide", "act", "vote", "cause", "line", "since", "lacks", "may", "ward",
-        "tried", "doors", "missing", "luck", "chances", "costs", "wish", "clear", "caseOf", "plan", "planned", "count",
-        "status"};
+    private static final String[] FACE = {"int feed(int,int,int,int,int)", "int end(int)", "int folds()", "int law()", "int fault()",
+        "int record(int,int,int,int,int,int,int)", "int folded(int,int,int)", "int field(int,int,int)",
+        "int terms(int,int,int,int,int,int)", "long odds(int,int,int)", "int person(int,int)", "int joined(int,int)",
+        "int of(int,int,int,int)", "int led(int,int,int,int)", "int hide(int)", "int act(int,int,int,int)", "int vote(int)",
+        "int cause(int,int,int)", "int line(int,int,int)", "int since(int,int,int)", "int lacks(int,int)", "int may(int,int,int)",
+        "int ward(int,int,int,int)", "int tried(int,int,int)", "int doors(int,int,int,int)", "int missing(int,int)",
+        "long luck(int,int,int,int,int)", "int chances(int,int,int)", "int costs(int,int)", "int wish(int)", "int clear()",
+        "int caseOf(int,int,int)", "int plan(int,int,int)", "int planned(int)", "int count(int)", "int status()"};
 
     public static void main(String[] args) throws Exception {
         String source = System.getProperty("voteroll.source", "src/main/java/VoteRoll.java");
@@ -28,44 +36,48 @@ public final class LanguageTest {
     }
 
     private static void face() {
-        TreeSet<String> due = new TreeSet<>(List.of(FACE));
+        TreeSet<String> due = new TreeSet<>();
+        TreeSet<String> dueNames = new TreeSet<>();
+        for (String method : FACE) {
+            due.add("public " + method);
+            dueNames.add(method.substring(method.indexOf(' ') + 1, method.indexOf('(')));
+        }
         TreeSet<String> found = new TreeSet<>();
         int othersSeen = 0;
-        for (java.lang.reflect.Method m : VoteRoll.class.getDeclaredMethods()) {
+        for (Method m : VoteRoll.class.getDeclaredMethods()) {
             int mod = m.getModifiers();
-            if (java.lang.reflect.Modifier.isPublic(mod)) {
-                found.add(m.getName());
-            } else if (!java.lang.reflect.Modifier.isPrivate(mod) && !m.isSynthetic()) {
+            if (Modifier.isPublic(mod)) {
+                found.add(m.toString().replace("VoteRoll.", ""));
+            } else if (!Modifier.isPrivate(mod) && !m.isSynthetic()) {
                 othersSeen++;
-            } else if (due.contains(m.getName())) {
+            } else if (dueNames.contains(m.getName())) {
                 othersSeen++;
             }
         }
         Desk.due("rule 1: public methods", found.toString(), due.toString());
-        for (java.lang.reflect.Field f : VoteRoll.class.getDeclaredFields()) {
-            boolean isNone = f.getName().equals("NONE");
-            boolean hidden = java.lang.reflect.Modifier.isPrivate(f.getModifiers());
-            othersSeen += isNone || hidden ? 0 : 1;
+        Desk.due("rule 1: the class", Modifier.toString(VoteRoll.class.getModifiers()), "public final");
+        for (Field f : VoteRoll.class.getDeclaredFields()) {
+            boolean isNone = f.toString().equals("public static final int VoteRoll.NONE");
+            othersSeen += isNone || Modifier.isPrivate(f.getModifiers()) ? 0 : 1;
         }
         for (Class<?> c : VoteRoll.class.getDeclaredClasses()) {
-            boolean fine = java.lang.reflect.Modifier.isPrivate(c.getModifiers())
-                    && java.lang.reflect.Modifier.isStatic(c.getModifiers());
+            boolean fine = Modifier.isPrivate(c.getModifiers()) && Modifier.isStatic(c.getModifiers());
             othersSeen += fine ? 0 : 1;
             Desk.due("rule 11: fields of " + c.getSimpleName(), objectFields(c) <= 20 ? 0 : objectFields(c), 0);
-            for (java.lang.reflect.Method m : c.getDeclaredMethods()) {
-                othersSeen += due.contains(m.getName()) ? 1 : 0;
+            for (Method m : c.getDeclaredMethods()) {
+                othersSeen += dueNames.contains(m.getName()) ? 1 : 0;
             }
         }
         Desk.due("rule 1: members that should not be seen", othersSeen, 0);
-        Desk.due("rule 1: constructors", VoteRoll.class.getConstructors().length, 1);
+        Desk.due("rule 1: constructors", Arrays.toString(VoteRoll.class.getDeclaredConstructors()), "[public VoteRoll()]");
         Desk.due("rule 11: fields of VoteRoll", objectFields(VoteRoll.class) <= 20 ? 0 : 1, 0);
         Desk.due("rule 11: classes", VoteRoll.class.getDeclaredClasses().length + 1 <= 12 ? 0 : 1, 0);
     }
 
     private static int objectFields(Class<?> c) {
         int n = 0;
-        for (java.lang.reflect.Field f : c.getDeclaredFields()) {
-            n += java.lang.reflect.Modifier.isStatic(f.getModifiers()) ? 0 : 1;
+        for (Field f : c.getDeclaredFields()) {
+            n += Modifier.isStatic(f.getModifiers()) ? 0 : 1;
         }
         return n;
     }
